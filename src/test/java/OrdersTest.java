@@ -12,6 +12,7 @@ public final class OrdersTest {
         ringFromTheFirst();
         ringBehindATail();
         firstOfTwoRings();
+        ringOfTwenty();
         dean();
         check.finish();
     }
@@ -151,6 +152,19 @@ public final class OrdersTest {
         desk.hand(6, 4);
         due("17: two rings", desk, 3, 0, 1, 2, 3, 4, 5, 6);
         dueRing("18: the first one", desk, 3, 1, 3, 2);
+    }
+
+    private static void ringOfTwenty() {
+        ProtocolDesk desk = guests(20);
+        int[] numbers = new int[20];
+        int[] backwards = new int[20];
+        for (int p = 0; p < 20; p++) {
+            desk.hand(p, (p + 1) % 20);
+            numbers[p] = p;
+            backwards[p] = (20 - p) % 20;
+        }
+        due("17: twenty in a ring", desk, 3, numbers);
+        dueRing("18: twenty in a ring", desk, 3, backwards);
     }
 
     private static void dean() {

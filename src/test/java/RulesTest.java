@@ -43,7 +43,7 @@ public final class RulesTest {
 
     private static int fillTo(ProtocolDesk desk, int bytes) {
         int has = 0;
-        while (has < bytes) {
+        for (int i = 0; i < bytes; i++) {
             has = desk.feed(0, 1);
         }
         return has;

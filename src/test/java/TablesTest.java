@@ -300,10 +300,17 @@ public final class TablesTest {
         check.refused("26: BAD ahead of STATE", Scene::busy, d -> d.lay(0, 1, 5, 0b111111), BAD);
         check.refused("26: one is absent", Scene::busy, d -> d.lay(0, 1, 5, 0b010001), STATE);
         check.refused("26: STATE ahead of -6", Scene::busy, d -> d.lay(0, 1, 5, 0b010011), STATE);
+        check.refused("26: the first one is absent", TablesTest::withoutTheFirst, d -> d.lay(0, 1, 5, 3), STATE);
         ProtocolDesk desk = guests(9);
         desk.table(0, 12);
         check.same("26: eight", desk.lay(0, 1, 5, 0b11111111), BAD);
         due("26: it stays", desk, 0, NONE, NONE);
+    }
+
+    private static ProtocolDesk withoutTheFirst() {
+        ProtocolDesk desk = Scene.busy();
+        desk.there(0, 0);
+        return desk;
     }
 
     private static void close() {
