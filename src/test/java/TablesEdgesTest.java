@@ -405,6 +405,14 @@ public final class TablesEdgesTest {
         Scene.rule(turned, "on * rank down");
         check.same("seven, turned", turned.lay(0, 0, 0, 0b1111111), 0);
         due("by the order", turned, 0, 6, 5, 4, 3, 2, 1, 0);
+        ProtocolDesk facing = guestsAt(0, 4);
+        facing.feud(0, 3, 1);
+        check.same("the first faces the last of four", facing.lay(0, 0, 0, 0b1111), 2);
+        due("they do not sit so", facing, 0, 0, 1, 3, 2);
+        ProtocolDesk seven = guestsAt(0, 7);
+        seven.feud(6, 0, 1);
+        check.same("the first faces the last of seven", seven.lay(0, 0, 0, 0b1111111), 2);
+        due("they do not sit so", seven, 0, 0, 1, 2, 3, 4, 6, 5);
         ProtocolDesk around = guestsAt(1, 3);
         around.feud(0, 2, 1);
         check.same("the last of two does not sit around", around.lay(0, 0, 0, 0b101), NO_WAY);

@@ -20,6 +20,8 @@ public final class TapeEdgesTest {
         faultPlaces();
         longestText();
         rule();
+        ruleBehindAFault();
+        ruleDays();
         sixteenRules();
         check.finish();
     }
@@ -346,6 +348,30 @@ public final class TapeEdgesTest {
         check.same("no rule came", desk.count(2), 1);
         Scene.write(desk, "on * rank up");
         check.same("the second", desk.rule(0, 1), 1);
+    }
+
+    /** What was read ahead of a fault is forgotten: the next rule is as its own text tells. */
+    private static void ruleBehindAFault() {
+        check.sentence(10, "-10 less the FAULT (THE TAPE is empty then, too).");
+        String[] faults = {
+            "on 7 name down if a.rank=5 or b.rank=5 or a.rank=5 or b.rank=5 ",
+            "on 7 name down if not a.rank=3 and not b.rank=3 and a.kind=5!", "on 7 name down if a.rank=5", "on 7 name",
+        };
+        for (String text : faults) {
+            ProtocolDesk desk = Scene.people();
+            Scene.rule(desk, text + "|", 50, 60);
+            check.same("behind '" + text + "'", Scene.rule(desk, "on * since up", 0, 1), 0);
+            check.same("it decides for 0", desk.decides(0, 0, 0, 5, 0), 1);
+            check.same("it decides for 1", desk.decides(0, 9, 0, 5, 1), 1);
+            check.same("on its days alone", desk.decides(0, 7, 50, 5, 0), 0);
+            Scene.rule(desk, text + "|", 50, 60);
+            Scene.rule(desk, "on * since down if a.kind=2", 0, 1);
+            check.same("one test of its own, which holds", desk.decides(1, 0, 0, 2, 0), -1);
+            check.same("one test of its own, which does not", desk.decides(1, 0, 0, 0, 1), 0);
+        }
+    }
+
+    private static void ruleDays() {
         check.sentence(10, "BAD: days; FULL.");
         check.sentence(0, "(0 <= first < other <= 10000)");
         int[][] taken = {{0, 1}, {0, 10000}, {9999, 10000}, {0, 9999}, {1, 2}, {5000, 5001}};
