@@ -17,6 +17,11 @@ final class Document {
         return promise >= 0 && promise < PARTS.length && PARTS[promise].contains(words);
     }
 
+    /** What stands ahead of the first promise. */
+    static String head() {
+        return PARTS[0];
+    }
+
     private static String[] read() {
         try {
             String[] parts = Files.readString(FILE).split("## Promise [0-9]+: ");
